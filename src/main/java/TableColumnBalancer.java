@@ -64,7 +64,7 @@ public final class TableColumnBalancer {
         }
         givenWidths = new int[MAX_COLUMNS];
         columns.measure();
-        search.restart();
+        search.restart(Search.ABOVE_ALL);
     }
 
     // ---- configuration ----
@@ -143,7 +143,6 @@ public final class TableColumnBalancer {
         requireArgument(isWithin(breakAfter, SPACE, SOFT_HYPHEN));
         requireState(content.words < MAX_WORDS);
         content.push(length, breakAfter);
-        content.settle();
         changed();
         return content.words;
     }
@@ -165,7 +164,6 @@ public final class TableColumnBalancer {
         requireArgument(isWithin(height, 1, MAX_PICTURE));
         int previous = 100 * content.width + content.height;
         content.resize(width, height);
-        content.settle();
         changed();
         return previous;
     }
@@ -177,8 +175,7 @@ public final class TableColumnBalancer {
         Content content = table.cells[cell].content;
         requireSupport(content.isText() == isTextKind(kind));
         int previous = content.kind;
-        content.kind = kind;
-        content.settle();
+        content.turnInto(kind);
         changed();
         return previous;
     }
@@ -413,9 +410,9 @@ public final class TableColumnBalancer {
         for (int cell = 0; cell < table.cellCount; cell++) {
             trial.copyFrom(table);
             trial.takeOut(cell);
-            int height = leastHeightOfTrial();
-            if (height >= 0 && height < least) {
-                least = height;
+            int lower = heightOfTrialBelow(least);
+            if (lower >= 0) {
+                least = lower;
                 found = cell;
             }
         }
@@ -433,7 +430,7 @@ public final class TableColumnBalancer {
         requireState(now >= 0);
         trial.copyFrom(table);
         trial.cells[cell].content.pushAfterSpace(length);
-        int then = leastHeightOfTrial();
+        int then = heightOfTrialBelow(Search.ABOVE_ALL);
         requireState(then >= 0);
         return then - now;
     }
@@ -490,7 +487,7 @@ public final class TableColumnBalancer {
         requireRow(row);
         requireColumn(column);
         Clip source = clips[clip];
-        requireElement(source.made);
+        // A clip that is not made has no places.
         requireElement(isWithin(place, 0, source.size - 1) && source.filled[place]);
         requireState(table.hasRoom(row, column, 1));
         table.place(row, column, 1).copyFrom(source.contents[place]);
@@ -515,12 +512,12 @@ public final class TableColumnBalancer {
 
     private void changed() {
         columns.measure();
-        search.restart();
+        search.restart(Search.ABOVE_ALL);
     }
 
-    private int leastHeightOfTrial() {
+    private int heightOfTrialBelow(int limit) {
         trialColumns.measure();
-        trialSearch.restart();
+        trialSearch.restart(limit);
         return trialSearch.leastHeight(trial.width);
     }
 
@@ -603,7 +600,7 @@ public final class TableColumnBalancer {
 
     // ---- the parts ----
 
-    /** What a cell shows: words for the text kinds, a size for the other ones. After a change it must be settled. */
+    /** What a cell shows: words for the text kinds, a size for the other ones. */
     private static final class Content {
         private static final int UNKNOWN = -1;
 
@@ -665,6 +662,12 @@ public final class TableColumnBalancer {
         private void resize(int newWidth, int newHeight) {
             width = newWidth;
             height = newHeight;
+            settle();
+        }
+
+        private void turnInto(int newKind) {
+            kind = newKind;
+            settle();
         }
 
         private void push(int length, int breakAfter) {
@@ -673,6 +676,7 @@ public final class TableColumnBalancer {
                 breaks[words] = breakAfter;
                 words++;
             }
+            settle();
         }
 
         private void pushAfterSpace(int length) {
@@ -680,9 +684,9 @@ public final class TableColumnBalancer {
                 breaks[words - 1] = SPACE;
             }
             push(length, SPACE);
-            settle();
         }
 
+        /** Must end every change: it finds what follows from the words and forgets the heights. */
         private void settle() {
             indent = kind == QUOTE ? 2 : 0;
             pieces = 0;
@@ -1131,7 +1135,7 @@ public final class TableColumnBalancer {
             for (int column = 0; column < table.columnCount; column++) {
                 automatic[column] = guesses[fitting][column];
             }
-            if (automaticExists && guessSums[fitting] < usable) {
+            if (guessSums[fitting] < usable) {
                 weighRest(fitting);
                 share(usable - guessSums[fitting], automatic);
             }
@@ -1172,7 +1176,9 @@ public final class TableColumnBalancer {
         /** Row d holds, for each row of the table, a lower bound of its height when d columns have their widths. */
         private final int[][] bounds;
         private final int[] tried;
+        private int limit;
         private int asked;
+        private int least;
 
         private Search(Table searched, Columns measured) {
             table = searched;
@@ -1184,8 +1190,12 @@ public final class TableColumnBalancer {
             tried = new int[MAX_COLUMNS];
         }
 
-        /** Must follow every change of the table and the measuring of its columns. */
-        private void restart() {
+        /**
+         * Must follow every change of the table and the measuring of its columns. Only layouts below the limit are
+         * looked for, which is much faster where higher ones do not matter.
+         */
+        private void restart(int newLimit) {
+            limit = newLimit;
             needed = 0;
             lastFree = -1;
             for (int column = 0; column < table.columnCount; column++) {
@@ -1203,14 +1213,14 @@ public final class TableColumnBalancer {
         /** The table height of the best layout for a table width of at most 36, or less than 0 if there is none. */
         private int leastHeight(int tableWidth) {
             if (leastHeights[tableWidth] == UNKNOWN) {
-                leastHeights[tableWidth] = NO_LAYOUT;
                 int slack = table.usableWidth(tableWidth) - needed;
+                least = limit;
+                asked = tableWidth;
                 if (slack == 0 || slack > 0 && lastFree >= 0) {
-                    leastHeights[tableWidth] = ABOVE_ALL;
-                    asked = tableWidth;
                     boundRows(slack);
                     descend(this, 0, slack);
                 }
+                leastHeights[tableWidth] = least < limit ? least : NO_LAYOUT;
             }
             return leastHeights[tableWidth];
         }
@@ -1225,8 +1235,8 @@ public final class TableColumnBalancer {
             for (int number = 0; number < table.cellCount; number++) {
                 Cell cell = table.cells[number];
                 int narrow = table.widthIn(cell, needs);
-                int least = Math.min(table.heightWithin(cell, narrow), table.heightWithin(cell, narrow + slack));
-                bounds[0][cell.row] = Math.max(bounds[0][cell.row], least);
+                int lowest = Math.min(table.heightWithin(cell, narrow), table.heightWithin(cell, narrow + slack));
+                bounds[0][cell.row] = Math.max(bounds[0][cell.row], lowest);
             }
         }
 
@@ -1236,18 +1246,18 @@ public final class TableColumnBalancer {
                 search.keepTried();
                 return;
             }
-            int least = column == search.lastFree ? slack : 0;
-            int most = search.isFree(column) ? slack : 0;
-            for (int extra = least; extra <= most; extra++) {
+            int from = column == search.lastFree ? slack : 0;
+            int to = search.isFree(column) ? slack : 0;
+            for (int extra = from; extra <= to; extra++) {
                 search.tried[column] = search.needs[column] + extra;
-                if (search.boundWith(column) < search.leastHeights[search.asked]) {
+                if (search.boundWith(column) < search.least) {
                     descend(search, column + 1, slack - extra);
                 }
             }
         }
 
         private void keepTried() {
-            leastHeights[asked] = sumOf(bounds[table.columnCount]);
+            least = sumOf(bounds[table.columnCount]);
             for (int column = 0; column < table.columnCount; column++) {
                 leastWidths[asked][column] = tried[column];
             }
@@ -1310,7 +1320,6 @@ public final class TableColumnBalancer {
             end = length;
             length = 0;
             at = 0;
-            errorAt = -1;
             blockedAt = -1;
             int commands = 1;
             readCommand();
@@ -1396,7 +1405,6 @@ public final class TableColumnBalancer {
                 word = readWord();
             }
             content.push(word, SPACE);
-            content.settle();
             skip(';');
             putContent(start, column, span);
         }
@@ -1411,7 +1419,6 @@ public final class TableColumnBalancer {
             skip(';');
             content.begin(PICTURE);
             content.resize(width, height);
-            content.settle();
             putContent(start, column, span);
         }
 
@@ -1571,7 +1578,7 @@ public final class TableColumnBalancer {
         }
     }
 
-    /** The bits of numbers that are 0 or positive and in the normal range. */
+    /** The bits of numbers from 0 to 1 that are not subnormal, found by doubling, which is exact. */
     private static final class Bits {
         private static int ofFloat(float value) {
             if (value <= 0.0f) {
@@ -1579,10 +1586,6 @@ public final class TableColumnBalancer {
             }
             int exponent = 127;
             float scaled = value;
-            for (int step = 0; step < 126 && scaled >= 2.0f; step++) {
-                scaled = scaled / 2.0f;
-                exponent++;
-            }
             for (int step = 0; step < 126 && scaled < 1.0f; step++) {
                 scaled = scaled * 2.0f;
                 exponent--;
@@ -1596,10 +1599,6 @@ public final class TableColumnBalancer {
             }
             long exponent = 1023L;
             double scaled = value;
-            for (int step = 0; step < 1022 && scaled >= 2.0; step++) {
-                scaled = scaled / 2.0;
-                exponent++;
-            }
             for (int step = 0; step < 1022 && scaled < 1.0; step++) {
                 scaled = scaled * 2.0;
                 exponent--;

@@ -232,10 +232,17 @@ public final class ColumnsTest {
             autoWidth(0) 6
             autoWidth(1) 15
             autoWidth(2) 5
+            # 25 by 1 + 1 and 3 + 1 is 8 and 16, and 1 remains
+            setColumns(2) 3
+            setColumn(0, 2, 1) 0
+            setColumn(1, 2, 3) 0
+            autoWidth(0) 10
+            autoWidth(1) 17
+            setColumns(3) 2
             # equal to guess 1: 15, 10 and the minimum 1
-            setColumn(0, 2, 60) 220
-            setColumn(1, 2, 70) 260
-            setColumn(2, 2, 10) 220
+            setColumn(0, 2, 60) 0
+            setColumn(1, 2, 70) 0
+            setColumn(2, 2, 10) 0
             autoWidth(0) 15
             autoWidth(1) 10
             autoWidth(2) 1

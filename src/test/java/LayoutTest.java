@@ -101,6 +101,21 @@ public final class LayoutTest {
             bestHeight() 4
             clearWords(2) 1
             bestHeight() 2
+            # a table height of 0 is one, too
+            new
+            setMeasure(1, 0) 1
+            bestHeight() 0
+            bestWidth(2) 28
+            heightAt(8) 0
+            narrowest(0) 8
+            improvements() 1
+            improvement(0) 8
+            critical() !NoSuchElementException
+            addRow() 0
+            addCell(0, 0, 1, 0) 0
+            bestHeight() 0
+            raggednessBits(0) 0
+            costOfWord(0, 3) 1
             new
             bestHeight() 1
             setMeasure(1, 2) 1
