@@ -129,6 +129,22 @@ public final class ColumnsTest {
             columnWidth(1, 1) 12
             guess(2, 0) 7
             guess(2, 1) 12
+            # only the columns of the cell count, wherever the fixed ones are
+            new
+            setColumn(1, 1, 4) 0
+            setColumn(2, 1, 8) 0
+            addRow() 0
+            addCell(0, 1, 2, 5) 0
+            setSize(0, 20, 1) 101
+            columnWidth(0, 0) 1
+            columnWidth(1, 0) 7
+            columnWidth(2, 0) 12
+            removeCell(0) 0
+            addCell(0, 0, 2, 5) 0
+            setSize(0, 20, 1) 101
+            columnWidth(0, 0) 18
+            columnWidth(1, 0) 1
+            columnWidth(2, 0) 1
             """);
     }
 
