@@ -1,8 +1,6 @@
 import java.lang.reflect.InvocationTargetException;
 import java.lang.reflect.Method;
-import java.util.ArrayList;
 import java.util.HashMap;
-import java.util.List;
 import java.util.Map;
 
 /** Calls of the face by name, with answers as texts: a number, or throws. and the exception's name. */
@@ -45,21 +43,56 @@ final class Calls {
         return "throws." + thrown.getClass().getSimpleName() + note;
     }
 
-    /** The ints by which a text is appended, four characters at a time. */
-    static int[] packed(String text) {
-        List<Integer> ints = new ArrayList<>();
-        for (int from = 0; from < text.length(); from += 4) {
-            int value = 0;
-            for (int i = from; i < Math.min(from + 4, text.length()); i++) {
-                value = value << 8 | text.charAt(i);
+    /** The int by which one to four characters are appended. */
+    static int packed(String text) {
+        int value = 0;
+        for (int i = 0; i < text.length(); i++) {
+            value = value << 8 | text.charAt(i);
+        }
+        return value;
+    }
+
+    /** All that an object holds, also what only changes bring to light; the object is spoilt by it. */
+    static String everything(TableColumnBalancer x, boolean withText) {
+        StringBuilder all = new StringBuilder(fingerprint(x, withText));
+        if (withText) {
+            String executed = answer(x, "execute");
+            all.append("\ntext ").append(executed).append(' ').append(x.errorPosition()).append(fingerprint(x, false));
+        }
+        for (int cell = 0; cell < x.count(2); cell++) {
+            // The break behind the last word acts only when another word follows.
+            all.append("\nword ").append(answer(x, "addWord", cell, 1, 0));
+        }
+        all.append(fingerprint(x, false)).append(clips(x));
+        all.append("\nrestored ").append(answer(x, "restore")).append(fingerprint(x, false));
+        return all.toString();
+    }
+
+    private static String clips(TableColumnBalancer x) {
+        StringBuilder all = new StringBuilder("\nclips");
+        while (x.count(2) > 0) {
+            x.removeCell(0);
+        }
+        x.setColumns(4);
+        while (x.count(1) < 4) {
+            x.addRow();
+        }
+        for (int clip = 0; clip < 2; clip++) {
+            for (int place = 0; place < 3; place++) {
+                all.append(' ').append(answer(x, "paste", clip, place, clip, place));
             }
-            ints.add(value);
         }
-        int[] result = new int[ints.size()];
-        for (int i = 0; i < result.length; i++) {
-            result[i] = ints.get(i);
+        all.append(fingerprint(x, false));
+        int first = x.count(2);
+        for (int kind = 0; kind < 6; kind++) {
+            x.addCell(2 + kind / 4, kind % 4, 1, kind);
         }
-        return result;
+        for (int clip = 0; clip < 2; clip++) {
+            for (int asked = 0; asked < 24; asked++) {
+                all.append(' ').append(answer(x, "copyTo", clip, asked / 6, first + asked % 6));
+            }
+        }
+        return all.toString();
     }
 
     /** All of the state that can be asked for, so that two states can be compared. */

@@ -198,7 +198,6 @@ public final class ClipsTest {
             removeCell(0) 1
             removeCell(0) 0
             setColumns(4) 2
-            append(97) 1
             run "?" form 0
             append(0x726f) 2
             makeClip(0, 4, 1) 1

@@ -71,8 +71,8 @@ public final class LongRunTest {
         call("copyTo", round & 1, round % 3, cell);
         call("removeCell", (7 * round + 3) % 16);
         call("paste", round & 1, round % 3, round % 6, round % COLUMNS);
-        call("append", Calls.packed("pad=")[0]);
-        call("append", Calls.packed((round % 3) + ";")[0]);
+        call("append", Calls.packed("pad="));
+        call("append", Calls.packed((round % 3) + ";"));
         call("execute");
         if (round % 4 == 3) {
             call("restore");

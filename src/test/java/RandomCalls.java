@@ -189,7 +189,8 @@ final class RandomCalls {
         for (int spoils = text.length() > 0 && random.nextInt(4) == 0 ? from(1, 2) : 0; spoils > 0; spoils--) {
             spoil(text);
         }
-        for (int packed : Calls.packed(text.toString())) {
+        for (int from = 0; from < text.length(); from += 4) {
+            int packed = Calls.packed(text.substring(from, Math.min(from + 4, text.length())));
             plan("append", random.nextInt(40) == 0 ? packed << 8 : packed);
         }
         if (random.nextInt(8) > 0) {

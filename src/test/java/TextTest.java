@@ -119,7 +119,7 @@ public final class TextTest {
             property(4, 5) 3
             setSize(5, 1, 1) 120
             # twelve words, and sixty characters
-            run "row;cell03p=a_b_c_d_e_f_g_h_i_j_k_l;row;width=30;width=30;" 5
+            run "row;cell03p=a_b_c_d_e_f_g_h_i_j_k_l;width=30;width=30;gap=1;" 5
             property(6, 4) 12
             # a word that is added later follows a space
             new
