@@ -479,6 +479,17 @@ final class ClipSentences {
 
     private static void restoreKeeps() {
         Sentence.holds("Promise 44", "The buffer, the error position and the clips stay as they are", FILLED + """
+            # each full place of each clip
+            save() 2
+            restore() 2
+            paste(0, 1, 1, 0) 2
+            property(2, 3) 2
+            property(2, 4) 2
+            paste(1, 0, 1, 1) 3
+            setSize(3, 1, 1) 907
+            paste(0, 0, 1, 2) !NoSuchElementException
+            removeCell(3) 3
+            removeCell(2) 2
             save() 2
             run "row;rows;" form 4
             append "row;" 4
