@@ -10,56 +10,16 @@ import java.util.HashSet;
 import java.util.List;
 import java.util.Set;
 import java.util.TreeSet;
+import java.util.regex.Matcher;
+import java.util.regex.Pattern;
 import java.util.stream.Collectors;
 
 /** The class has the document's face and nothing else that is visible, and its text keeps to the plainest rules. */
 public final class FaceTest {
     private static final Path PROGRAM = Path.of("src/main/java/TableColumnBalancer.java");
-    private static final String FACE = """
-        int addCell(int,int,int,int) IllegalArgument IllegalState IndexOutOfBounds
-        int addRow() IllegalState
-        int addWord(int,int,int) IllegalArgument IllegalState IndexOutOfBounds UnsupportedOperation
-        int append(int) IllegalArgument IllegalState
-        int autoHeight() IllegalState
-        int autoWidth(int) IllegalState IndexOutOfBounds
-        int bestHeight() IllegalState
-        int bestWidth(int) IllegalState IndexOutOfBounds
-        int cellAt(int,int) IndexOutOfBounds
-        int cellHeight(int,int) IllegalArgument IndexOutOfBounds
-        int clearWords(int) IndexOutOfBounds UnsupportedOperation
-        int columnWidth(int,int) IllegalArgument IndexOutOfBounds
-        int conflicts()
-        int copyTo(int,int,int) IllegalArgument IllegalState IndexOutOfBounds NoSuchElement
-        int costOfWord(int,int) IllegalArgument IllegalState IndexOutOfBounds UnsupportedOperation
-        int count(int) IllegalArgument
-        int critical() IllegalState NoSuchElement
-        int errorPosition()
-        int execute() IllegalArgument IllegalState
-        int guess(int,int) IllegalArgument IndexOutOfBounds
-        int heightAt(int) IllegalArgument NoSuchElement
-        int heightFor(int,int,int,int) IllegalArgument
-        int improvement(int) NoSuchElement
-        int improvements()
-        int lineCount(int,int) IllegalArgument IndexOutOfBounds UnsupportedOperation
-        int lineLength(int,int,int) IllegalArgument IndexOutOfBounds NoSuchElement UnsupportedOperation
-        int makeClip(int,int,int) IllegalArgument IndexOutOfBounds
-        int narrowest(int) NoSuchElement
-        int nextStep(int,int) IllegalArgument IndexOutOfBounds NoSuchElement
-        int paste(int,int,int,int) IllegalState IndexOutOfBounds NoSuchElement
-        int property(int,int) IllegalArgument IndexOutOfBounds
-        int raggednessBits(int) IllegalState IndexOutOfBounds UnsupportedOperation
-        int removeCell(int) IndexOutOfBounds
-        int restore() IllegalState
-        int rowHeight(int,boolean) IllegalState IndexOutOfBounds
-        int save()
-        int setColumn(int,int,int) IllegalArgument IndexOutOfBounds
-        int setColumns(int) IllegalArgument IllegalState
-        int setKind(int,int) IllegalArgument IndexOutOfBounds UnsupportedOperation
-        int setMeasure(int,int) IllegalArgument IndexOutOfBounds
-        int setSize(int,int,int) IllegalArgument IndexOutOfBounds UnsupportedOperation
-        int tallest(int) IllegalState IndexOutOfBounds NoSuchElement
-        long densityBits() Arithmetic IllegalState
-        """;
+    private static final Path DOCUMENT = Path.of("../shared/DOC.md");
+    private static final Pattern SIGNATURE = Pattern.compile("(int|long) (\\w+)\\(([^)]*)\\)(?: throws ([\\w., ]+))?");
+    private static final int METHODS = 43;
     private static int wrong = 0;
 
     private FaceTest() {
@@ -92,7 +52,20 @@ public final class FaceTest {
         }
     }
 
-    private static void methods(Class<?> face) {
+    /** The face in the document's words, one method to a line; each promise must say the same of its method. */
+    private static List<String> promised() throws IOException {
+        String document = Files.readString(DOCUMENT);
+        String block = document.split("```java\n")[1].split("```")[0];
+        List<String> signatures = block.lines().map(String::strip).filter(line -> SIGNATURE.matcher(line).find())
+            .map(line -> line.replaceAll("^public |;$", "")).toList();
+        demand(signatures.size() == METHODS, "the document promises " + METHODS + " methods");
+        for (String signature : signatures) {
+            demand(document.contains("\n`" + signature + "`\n"), "a promise for " + signature);
+        }
+        return signatures;
+    }
+
+    private static void methods(Class<?> face) throws IOException {
         Set<String> found = new TreeSet<>();
         Set<String> names = new HashSet<>();
         for (Method method : face.getDeclaredMethods()) {
@@ -103,7 +76,12 @@ public final class FaceTest {
                 demand(Modifier.isPrivate(method.getModifiers()), "private: " + method);
             }
         }
-        Set<String> due = new TreeSet<>(Arrays.asList(FACE.split("\n")));
+        String program = Files.readString(PROGRAM).replaceAll("\\s+", " ");
+        Set<String> due = new TreeSet<>();
+        for (String signature : promised()) {
+            due.add(signature(signature));
+            demand(program.contains(" public " + signature + " {"), "the program has the words " + signature);
+        }
         demand(found.equals(due), "the public methods are " + due + "\nfound " + found);
         privateNames(face, names);
         for (Class<?> inside : face.getDeclaredClasses()) {
@@ -111,12 +89,23 @@ public final class FaceTest {
         }
     }
 
+    /** Types alone, with the exceptions in their order. */
     private static String signature(Method method) {
         String parameters = Arrays.stream(method.getParameterTypes()).map(Class::getSimpleName)
             .collect(Collectors.joining(",", "(", ")"));
-        String exceptions = Arrays.stream(method.getExceptionTypes())
-            .map(type -> " " + type.getSimpleName().replace("Exception", "")).sorted().collect(Collectors.joining());
+        String exceptions = Arrays.stream(method.getExceptionTypes()).map(type -> " " + type.getName().replaceAll(".*\\.", ""))
+            .collect(Collectors.joining());
         return method.getReturnType().getSimpleName() + " " + method.getName() + parameters + exceptions;
+    }
+
+    private static String signature(String written) {
+        Matcher parts = SIGNATURE.matcher(written);
+        if (!parts.matches()) {
+            throw new IllegalArgumentException("not a signature: " + written);
+        }
+        String parameters = parts.group(3).replaceAll(" \\w+(, |$)", "$1").replace(" ", "");
+        String exceptions = parts.group(4) == null ? "" : " " + parts.group(4).replace("java.util.", "").replace(",", "");
+        return parts.group(1) + " " + parts.group(2) + "(" + parameters + ")" + exceptions;
     }
 
     private static void privateNames(Class<?> type, Set<String> publicNames) {
